@@ -29,7 +29,6 @@ public final class ShiftSignatures {
     private final Circuit circuit;
     private final Differences differences;
     private final long[] masks;
-    private int channelCount;
     private long register;
 
     public ShiftSignatures() {
@@ -37,7 +36,6 @@ public final class ShiftSignatures {
         circuit = new Circuit();
         differences = new Differences();
         masks = new long[MAX_CHANNELS];
-        channelCount = 0;
         register = 1;
     }
 
@@ -48,7 +46,6 @@ public final class ShiftSignatures {
         }
         modulus.become(p);
         register = 1;
-        channelCount = 0;
         circuit.restart(0);
         return degree;
     }
@@ -99,13 +96,13 @@ public final class ShiftSignatures {
 
     public int channel(long mask) throws IllegalArgumentException, IllegalStateException {
         requireResidue(mask);
-        if (channelCount >= MAX_CHANNELS) {
+        int number = circuit.channelCount;
+        if (number >= MAX_CHANNELS) {
             throw new IllegalStateException("there are 8 channels");
         }
-        masks[channelCount] = mask;
-        channelCount++;
-        circuit.restart(channelCount);
-        return channelCount - 1;
+        masks[number] = mask;
+        circuit.restart(number + 1);
+        return number;
     }
 
     public int pattern() {
@@ -221,7 +218,7 @@ public final class ShiftSignatures {
 
     private int patternOf(long held) {
         int bits = 0;
-        for (int c = 0; c < channelCount; c++) {
+        for (int c = 0; c < circuit.channelCount; c++) {
             bits |= (Long.bitCount(held & masks[c]) & 1) << c;
         }
         return bits;
@@ -431,7 +428,7 @@ public final class ShiftSignatures {
         private final int[] rights;
         private final int[] outputLines;
         private final long[] values;
-        private int inputCount;
+        private int channelCount;
         private int gateCount;
         private int outputCount;
 
@@ -443,14 +440,14 @@ public final class ShiftSignatures {
             values = new long[MAX_LINES];
         }
 
-        private void restart(int inputs) {
-            inputCount = inputs;
+        private void restart(int channels) {
+            channelCount = channels;
             gateCount = 0;
             outputCount = 0;
         }
 
         private int countLines() {
-            return inputCount + gateCount;
+            return channelCount + gateCount;
         }
 
         private int countFaults() {
@@ -490,7 +487,7 @@ public final class ShiftSignatures {
         private void settle(int bits, boolean withFaults) {
             int lines = countLines();
             for (int line = 0; line < lines; line++) {
-                long told = line < inputCount ? spread(bits >>> line) : valuesOfGate(line - inputCount);
+                long told = line < channelCount ? spread(bits >>> line) : valuesOfGate(line - channelCount);
                 values[line] = withFaults ? withStuck(told, line) : told;
             }
         }

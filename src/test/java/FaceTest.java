@@ -47,6 +47,11 @@ public final class FaceTest {
             due.answer(inside + " is public", Modifier.isPublic(inside.getModifiers()), false);
             due.answer(inside + " is protected", Modifier.isProtected(inside.getModifiers()), false);
         }
+        for (String name : privateNames()) {
+            for (String member : FACE) {
+                due.answer(name + " is private and bears the name of " + member, member.contains(" " + name + "("), false);
+            }
+        }
         due.end();
     }
 
@@ -70,6 +75,21 @@ public final class FaceTest {
             }
         }
         return seen;
+    }
+
+    private static Set<String> privateNames() {
+        Set<String> names = new TreeSet<>();
+        for (Method method : ShiftSignatures.class.getDeclaredMethods()) {
+            if (Modifier.isPrivate(method.getModifiers())) {
+                names.add(method.getName());
+            }
+        }
+        for (Class<?> inside : ShiftSignatures.class.getDeclaredClasses()) {
+            for (Method method : inside.getDeclaredMethods()) {
+                names.add(method.getName());
+            }
+        }
+        return names;
     }
 
     private static String constant(Field field) throws IllegalAccessException {

@@ -16,6 +16,7 @@ public final class OrdersTest {
         knownPrimitive();
         allOrdersOfIrreducibleOnes();
         squaresAndProducts();
+        productsOfOneDegree();
         stateStays();
         due.end();
     }
@@ -144,6 +145,36 @@ public final class OrdersTest {
             x.polynomial(power);
             due.answer("order() of (x + 1)^" + k, x.order(), orders[k - 1]);
         }
+    }
+
+    /** Where all factors have a degree d that divides n, x^(2^n - 1) is 1 though p is not primitive. */
+    private static void productsOfOneDegree() {
+        ShiftSignatures x = new ShiftSignatures();
+        for (int n = 2; n <= 32; n++) {
+            for (int d = 2; d < n; d++) {
+                if (n % d == 0) {
+                    long p = productOfIrreducible(d, n / d);
+                    x.polynomial(p);
+                    due.answer("irreducible() of " + p, x.irreducible(), false);
+                    due.answer("primitive() of " + p, x.primitive(), false);
+                }
+            }
+        }
+    }
+
+    /** The last ones of their degree, or fewer if there are not so many. */
+    private static long productOfIrreducible(int degree, int many) {
+        Reference r = new Reference();
+        long product = 1;
+        int taken = 0;
+        for (long p = (2L << degree) - 1; p > 1L << degree && taken < many; p -= 2) {
+            r.polynomial(p);
+            if (r.irreducible()) {
+                product = product(product, p);
+                taken++;
+            }
+        }
+        return taken < 2 ? 5 : product;
     }
 
     private static void stateStays() {

@@ -10,6 +10,7 @@ public final class SessionTest {
         faultsByHand();
         seenButNotFound();
         firstMissedByNumber();
+        hiddenAfterOneRound();
         allSixtyFour();
         faultsIsRefused();
         firsts();
@@ -133,6 +134,32 @@ public final class SessionTest {
         due.answer("faults(2, 1)", x.faults(2, 1), 2);
         due.answer("faults(2, 2)", x.faults(2, 2), 0);
         due.answer("faults(2, 3)", x.faults(2, 3), 1);
+    }
+
+    /** Where x^32 is 1, what is wrong at pattern t is made good by the same wrong at pattern t + 32. */
+    private static void hiddenAfterOneRound() {
+        ShiftSignatures x = new ShiftSignatures();
+        x.polynomial(4294967297L);
+        x.channel(1);
+        x.output(0);
+        int[][] seenFoundMissed = {
+            {1, 1, 1, -1}, {2, 2, 2, -1}, {32, 2, 2, -1}, {33, 2, 1, 0}, {63, 2, 1, 0}, {64, 2, 0, 0},
+            {65, 2, 1, 1}, {66, 2, 2, -1}, {128, 2, 0, 0}, {255, 2, 1, 0}, {256, 2, 0, 0}
+        };
+        for (int[] row : seenFoundMissed) {
+            for (int what = 1; what <= 3; what++) {
+                due.answer("faults(" + row[0] + ", " + what + ") where x^32 is 1", x.faults(row[0], what), row[what]);
+            }
+        }
+        // As in signatureByHand: the signatures of 8, 9 and 10 patterns are 0, as if all answers were 0.
+        x.polynomial(11);
+        x.channel(1);
+        x.output(0);
+        due.answer("faults(7, 3) where x^7 is 1", x.faults(7, 3), -1);
+        due.answer("faults(8, 3) where x^7 is 1", x.faults(8, 3), 0);
+        due.answer("faults(8, 2) where x^7 is 1", x.faults(8, 2), 1);
+        due.answer("faults(10, 3) where x^7 is 1", x.faults(10, 3), 0);
+        due.answer("faults(11, 3) where x^7 is 1", x.faults(11, 3), -1);
     }
 
     private static void allSixtyFour() {
