@@ -1,10 +1,17 @@
+import java.util.function.Consumer;
+import java.util.function.Supplier;
+
 /** What the tests share: answers are held against those that are due, and the wrong ones printed. */
 final class Due {
-    interface Call {
-        void make();
-    }
+    private static final int PRINTED = 50;
 
+    private String sentence = "";
     private int wrong;
+
+    /** The words of the document that the answers from here on are held to. */
+    void sentence(String words) {
+        sentence = words;
+    }
 
     void answer(String call, long got, long want) {
         if (got != want) {
@@ -16,28 +23,51 @@ final class Due {
         answer(call, got ? 1 : 0, want ? 1 : 0);
     }
 
-    /** The call throws just this exception, and leaves all that x shows as it was. */
-    void refusal(String call, ShiftSignatures x, Class<? extends RuntimeException> want, Call made) {
-        String before = shown(x);
-        Class<?> got = null;
-        try {
-            made.make();
-        } catch (RuntimeException thrown) {
-            got = thrown.getClass();
+    void same(String what, String got, String want) {
+        if (!got.equals(want)) {
+            tell(what + " is " + got + ", due is " + want);
         }
+    }
+
+    void badArgument(String call, Supplier<ShiftSignatures> maker, Consumer<ShiftSignatures> made) {
+        refusal(call, maker, IllegalArgumentException.class, made);
+    }
+
+    void badIndex(String call, Supplier<ShiftSignatures> maker, Consumer<ShiftSignatures> made) {
+        refusal(call, maker, IndexOutOfBoundsException.class, made);
+    }
+
+    void badState(String call, Supplier<ShiftSignatures> maker, Consumer<ShiftSignatures> made) {
+        refusal(call, maker, IllegalStateException.class, made);
+    }
+
+    /**
+     * The call throws just this exception, and leaves all as it is in an object made in the same way.
+     * The objects are new each time, as nothing is promised of one behind its 512th call.
+     */
+    private void refusal(
+            String call, Supplier<ShiftSignatures> maker, Class<?> want, Consumer<ShiftSignatures> made) {
+        ShiftSignatures x = maker.get();
+        Class<?> got = thrownBy(x, made);
         if (got != want) {
             tell(call + " threw " + got + ", due is " + want);
         }
-        String after = shown(x);
-        if (!after.equals(before)) {
-            tell(call + " threw and changed " + before + " to " + after);
+        same("what is left behind " + call, State.of(x), State.of(maker.get()));
+    }
+
+    static Class<?> thrownBy(ShiftSignatures x, Consumer<ShiftSignatures> made) {
+        try {
+            made.accept(x);
+        } catch (RuntimeException thrown) {
+            return thrown.getClass();
         }
+        return null;
     }
 
     void tell(String what) {
         wrong++;
-        if (wrong <= 50) {
-            System.out.println(what);
+        if (wrong <= PRINTED) {
+            System.out.println((sentence.isEmpty() ? "" : "\"" + sentence + "\": ") + what);
         }
     }
 
@@ -46,12 +76,5 @@ final class Due {
             System.out.println(wrong + " answers are not as due");
             System.exit(1);
         }
-    }
-
-    private static String shown(ShiftSignatures x) {
-        return "p by " + x.residue(1L << 62) + " " + x.residue(1L << 41) + " " + x.residue(-1L)
-                + ", register " + x.steps(0) + ", pattern " + x.pattern() + ", faults " + x.faults(0, 0)
-                + ", answers " + x.answer(0, -1) + " " + x.answer(-1, -1) + " " + x.answer(0x55, -1)
-                + ", session " + x.session(40, -1) + ", seen " + x.faults(40, 1);
     }
 }

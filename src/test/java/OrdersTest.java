@@ -1,31 +1,52 @@
-/** Promises 6 to 8. */
+/** Promises 6 to 8, and what the terms say of irreducible and primitive polynomials and of orders. */
 public final class OrdersTest {
-    /** One of each degree from 1 on, well known ones. */
-    private static final long[] PRIMITIVE = {
-        0x3, 0x7, 0xB, 0x13, 0x25, 0x43, 0x83, 0x11D, 0x211, 0x409, 0x805, 0x1053, 0x201B, 0x402B,
-        0x8003, 0x1002D, 0x20009, 0x40081, 0x80027, 0x100009, 0x200005, 0x400003, 0x800021,
-        0x1000087, 0x2000009, 0x4000047, 0x8000027, 0x10000009, 0x20000005, 0x40000053L,
-        0x80000009L, 0x100400007L
-    };
     private static final Due due = new Due();
 
     public static void main(String[] args) {
+        irreducibleOfLowestDegrees();
+        productsOfTwo();
         allOfLowDegrees();
         countsOfDegreeSixteen();
-        ordersUpToEighteen();
+        squaresOfIrreducibleOnes();
+        productsOfOneDegree();
         knownPrimitive();
         allOrdersOfIrreducibleOnes();
-        squaresAndProducts();
-        productsOfOneDegree();
+        orderIsTheLeastAboveZero();
+        ordersUpToEighteen();
+        noOrderAboveEighteen();
         stateStays();
         due.end();
     }
 
+    private static void irreducibleOfLowestDegrees() {
+        due.sentence("Terms: IRREDUCIBLE if it is no product of two of lesser degrees that are above 0");
+        // x + 1 has no lesser degree above 0, and x^2 + x + 1 is no square of x + 1.
+        due.answer("irreducible() of x + 1", Made.of(3).irreducible(), true);
+        due.answer("irreducible() of x^2 + 1", Made.of(5).irreducible(), false);
+        due.answer("irreducible() of x^2 + x + 1", Made.of(7).irreducible(), true);
+        due.answer("irreducible() of x^3 + 1", Made.of(9).irreducible(), false);
+        due.answer("irreducible() of x^3 + x^2 + x + 1", Made.of(15).irreducible(), false);
+    }
+
+    /** Of each degree up to 32, with a factor of each lesser degree: 1 and 31 to 16 and 16. */
+    private static void productsOfTwo() {
+        due.sentence("Terms: IRREDUCIBLE if it is no product of two of lesser degrees that are above 0");
+        for (int n = 2; n <= 32; n++) {
+            for (int d = 1; 2 * d <= n; d++) {
+                long p = Made.product(Made.PRIMITIVE[d - 1], Made.PRIMITIVE[n - d - 1]);
+                ShiftSignatures x = new ShiftSignatures();
+                due.answer("polynomial(" + p + ")", x.polynomial(p), n);
+                due.answer("irreducible() of " + p, x.irreducible(), false);
+                due.answer("primitive() of " + p, x.primitive(), false);
+            }
+        }
+    }
+
     private static void allOfLowDegrees() {
-        ShiftSignatures x = new ShiftSignatures();
+        due.sentence("Promises 6 to 8: Whether p is irreducible, whether p is primitive, the order of p");
         Reference r = new Reference();
         for (long p = 3; p < 1L << 12; p += 2) {
-            x.polynomial(p);
+            ShiftSignatures x = Made.of(p);
             r.polynomial(p);
             due.answer("irreducible() of " + p, x.irreducible(), r.irreducible());
             due.answer("primitive() of " + p, x.primitive(), r.primitive());
@@ -35,11 +56,11 @@ public final class OrdersTest {
 
     /** There are 4080 irreducible polynomials of degree 16, and 2048 of them are primitive. */
     private static void countsOfDegreeSixteen() {
-        ShiftSignatures x = new ShiftSignatures();
+        due.sentence("Promises 6 and 7: Whether p is irreducible, whether p is primitive");
         int irreducible = 0;
         int primitive = 0;
         for (long p = (1L << 16) + 1; p < 1L << 17; p += 2) {
-            x.polynomial(p);
+            ShiftSignatures x = Made.of(p);
             irreducible += x.irreducible() ? 1 : 0;
             primitive += x.primitive() ? 1 : 0;
         }
@@ -47,37 +68,53 @@ public final class OrdersTest {
         due.answer("primitive ones of degree 16", primitive, 2048);
     }
 
-    private static void ordersUpToEighteen() {
-        ShiftSignatures x = new ShiftSignatures();
-        Reference r = new Reference();
-        for (int n = 1; n <= 18; n++) {
-            for (long k = 0; k < 40; k++) {
-                long p = 1L << n | k * 0x9E3779B97F4A7C15L >>> (64 - n) | 1;
-                x.polynomial(p);
-                r.polynomial(p);
-                due.answer("order() of " + p, x.order(), r.order());
+    private static void squaresOfIrreducibleOnes() {
+        due.sentence("Promise 6: Whether p is irreducible (the square of one is not)");
+        for (int d = 1; d <= 16; d++) {
+            long p = Made.product(Made.PRIMITIVE[d - 1], Made.PRIMITIVE[d - 1]);
+            due.answer("irreducible() of " + p, Made.of(p).irreducible(), false);
+            due.answer("primitive() of " + p, Made.of(p).primitive(), false);
+        }
+    }
+
+    /** Where all factors have a degree d that divides n, x^(2^n - 1) is 1 though p is not primitive. */
+    private static void productsOfOneDegree() {
+        due.sentence("Promise 7: Whether p is primitive (a product is not)");
+        for (int n = 2; n <= 32; n++) {
+            for (int d = 2; d < n; d++) {
+                if (n % d == 0) {
+                    long p = productOfIrreducible(d, n / d);
+                    due.answer("irreducible() of " + p, Made.of(p).irreducible(), false);
+                    due.answer("primitive() of " + p, Made.of(p).primitive(), false);
+                }
             }
         }
-        for (int n = 1; n <= 18; n++) {
-            x.polynomial((1L << n) + 1);
-            due.answer("order() of x^" + n + " + 1", x.order(), n);
+    }
+
+    /** The last ones of their degree, or fewer if there are not so many. */
+    private static long productOfIrreducible(int degree, int many) {
+        Reference r = new Reference();
+        long product = 1;
+        int taken = 0;
+        for (long p = (2L << degree) - 1; p > 1L << degree && taken < many; p -= 2) {
+            r.polynomial(p);
+            if (r.irreducible()) {
+                product = Made.product(product, p);
+                taken++;
+            }
         }
-        for (int n = 19; n <= 32; n++) {
-            x.polynomial((1L << n) + 1);
-            due.answer("order() of x^" + n + " + 1", x.order(), ShiftSignatures.NONE);
-        }
-        x.polynomial(0x40081);
-        due.answer("order() of x^18 + x^7 + 1", x.order(), 262143);
+        return taken < 2 ? 5 : product;
     }
 
     private static void knownPrimitive() {
-        ShiftSignatures x = new ShiftSignatures();
-        for (int n = 1; n <= 32; n++) {
-            long p = PRIMITIVE[n - 1];
-            due.answer("polynomial(" + p + ")", x.polynomial(p), n);
-            due.answer("irreducible() of " + p, x.irreducible(), true);
-            due.answer("primitive() of " + p, x.primitive(), true);
+        due.sentence("Terms: it is PRIMITIVE if that is 2^n - 1");
+        for (long p : Made.PRIMITIVE) {
+            due.answer("irreducible() of " + p, Made.of(p).irreducible(), true);
+            due.answer("primitive() of " + p, Made.of(p).primitive(), true);
         }
+        due.answer("primitive() of x^4 + x^3 + x^2 + x + 1, of order 5", Made.of(31).primitive(), false);
+        due.answer("primitive() of x^2 + 1, of order 2", Made.of(5).primitive(), false);
+        due.answer("primitive() of x^32 + 1, of order 32", Made.of(0x100000001L).primitive(), false);
     }
 
     /**
@@ -85,7 +122,8 @@ public final class OrdersTest {
      * that x^q is a root of, where x is a root of a primitive one.
      */
     private static void allOrdersOfIrreducibleOnes() {
-        for (long p : PRIMITIVE) {
+        due.sentence("Terms: it is PRIMITIVE if that is 2^n - 1");
+        for (long p : Made.PRIMITIVE) {
             Reference r = new Reference();
             int n = r.polynomial(p);
             long all = (1L << n) - 1;
@@ -127,77 +165,55 @@ public final class OrdersTest {
         return bits;
     }
 
-    private static void squaresAndProducts() {
-        ShiftSignatures x = new ShiftSignatures();
-        long[] factors = {0x3, 0x7, 0xB, 0x1F, 0x25, 0x11D, 0x8003, 0x1002D, 0x1FFFF};
-        for (long a : factors) {
-            for (long b : factors) {
-                long p = product(a, b);
-                x.polynomial(p);
-                due.answer("irreducible() of " + p, x.irreducible(), false);
-                due.answer("primitive() of " + p, x.primitive(), false);
-            }
-        }
+    private static void orderIsTheLeastAboveZero() {
+        due.sentence("Terms: Its ORDER is the least k above 0 for which x^k leaves 1");
+        due.answer("order() of x + 1", Made.of(3).order(), 1);
+        due.answer("order() of a new object", new ShiftSignatures().order(), 1);
+        due.answer("order() of x^2 + x + 1", Made.of(7).order(), 3);
+        due.answer("order() of (x + 1)(x^2 + x + 1)", Made.of(9).order(), 3);
+        due.answer("order() of (x^2 + x + 1)^2", Made.of(21).order(), 6);
         long power = 1;
         int[] orders = {1, 2, 4, 4, 8, 8, 8, 8, 16, 16, 16, 16, 16, 16, 16, 16, 32, 32};
         for (int k = 1; k <= 18; k++) {
-            power = product(power, 3);
-            x.polynomial(power);
-            due.answer("order() of (x + 1)^" + k, x.order(), orders[k - 1]);
+            power = Made.product(power, 3);
+            due.answer("order() of (x + 1)^" + k, Made.of(power).order(), orders[k - 1]);
+        }
+        for (int n = 1; n <= 18; n++) {
+            due.answer("order() of x^" + n + " + 1", Made.of((1L << n) + 1).order(), n);
         }
     }
 
-    /** Where all factors have a degree d that divides n, x^(2^n - 1) is 1 though p is not primitive. */
-    private static void productsOfOneDegree() {
-        ShiftSignatures x = new ShiftSignatures();
-        for (int n = 2; n <= 32; n++) {
-            for (int d = 2; d < n; d++) {
-                if (n % d == 0) {
-                    long p = productOfIrreducible(d, n / d);
-                    x.polynomial(p);
-                    due.answer("irreducible() of " + p, x.irreducible(), false);
-                    due.answer("primitive() of " + p, x.primitive(), false);
-                }
-            }
-        }
-    }
-
-    /** The last ones of their degree, or fewer if there are not so many. */
-    private static long productOfIrreducible(int degree, int many) {
+    private static void ordersUpToEighteen() {
+        due.sentence("Promise 8: The order of p");
         Reference r = new Reference();
-        long product = 1;
-        int taken = 0;
-        for (long p = (2L << degree) - 1; p > 1L << degree && taken < many; p -= 2) {
-            r.polynomial(p);
-            if (r.irreducible()) {
-                product = product(product, p);
-                taken++;
+        for (int n = 1; n <= 18; n++) {
+            for (long k = 0; k < 40; k++) {
+                long p = 1L << n | k * 0x9E3779B97F4A7C15L >>> (64 - n) | 1;
+                r.polynomial(p);
+                due.answer("order() of " + p, Made.of(p).order(), r.order());
             }
+            due.answer("order() of degree " + n, Made.of(Made.PRIMITIVE[n - 1]).order(), (1L << n) - 1);
         }
-        return taken < 2 ? 5 : product;
+    }
+
+    private static void noOrderAboveEighteen() {
+        due.sentence("Promise 8: NONE if its degree is above 18");
+        due.answer("order() of x^18 + x^7 + 1", Made.of(0x40081).order(), 262143);
+        due.answer("order() of x^18 + 1", Made.of(0x40001).order(), 18);
+        due.answer("order() of the greatest of degree 18", Made.of(0x7FFFF).order(), 19);
+        for (int n = 19; n <= 32; n++) {
+            due.answer("order() of x^" + n + " + 1", Made.of((1L << n) + 1).order(), ShiftSignatures.NONE);
+            due.answer("order() of " + (n + 1) + " ones", Made.of((2L << n) - 1).order(), ShiftSignatures.NONE);
+            due.answer("order() of degree " + n, Made.of(Made.PRIMITIVE[n - 1]).order(), ShiftSignatures.NONE);
+        }
     }
 
     private static void stateStays() {
-        ShiftSignatures x = new ShiftSignatures();
-        x.polynomial(19);
-        x.load(6);
-        x.channel(6);
+        due.sentence("Promises 6 to 8: they tell, and change nothing");
+        ShiftSignatures x = Made.full();
         x.irreducible();
         x.primitive();
         x.order();
-        due.answer("residue(16) behind the questions", x.residue(16), 3);
-        due.answer("the register behind the questions", x.steps(0), 6);
-        due.answer("the channels behind the questions", x.channel(2), 1);
-        due.answer("the pattern behind the questions", x.pattern(), 2);
-    }
-
-    private static long product(long a, long b) {
-        long sum = 0;
-        for (int k = 0; k < 32; k++) {
-            if ((b >> k & 1) == 1) {
-                sum ^= a << k;
-            }
-        }
-        return sum;
+        due.same("a full object behind the questions", State.of(x), State.of(Made.full()));
     }
 }

@@ -3,14 +3,16 @@ import java.util.function.LongSupplier;
 
 /** Runs of calls, drawn by a fixed seed, on the program and on the reference side by side. */
 public final class RandomRunsTest {
-    private static final int RUNS = 1500;
-    private static final int CALLS = 160;
+    private static final int RUNS = 600;
+    /** All that an object is promised to answer. */
+    private static final int CALLS = 512;
     private static final Due due = new Due();
 
     private final Random random;
     private final ShiftSignatures x = new ShiftSignatures();
     private final Reference r = new Reference();
     private final int run;
+    private int calls;
 
     private RandomRunsTest(int run) {
         this.run = run;
@@ -28,7 +30,7 @@ public final class RandomRunsTest {
         if (run % 3 != 0) {
             buildBigCircuit();
         }
-        for (int k = 0; k < CALLS; k++) {
+        while (calls < CALLS) {
             int kind = random.nextInt(100);
             if (kind < 30) {
                 reckon(kind);
@@ -150,6 +152,7 @@ public final class RandomRunsTest {
     }
 
     private void same(String call, LongSupplier program, LongSupplier reference) {
+        calls++;
         String got = outcome(program);
         String want = outcome(reference);
         if (!got.equals(want)) {

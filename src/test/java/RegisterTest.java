@@ -1,133 +1,214 @@
-/** Promises 9 to 12. */
+/** Promises 9 to 12, and what the terms say of the register and of channels. */
 public final class RegisterTest {
     private static final Due due = new Due();
 
     public static void main(String[] args) {
+        stepWrapsAround();
+        zeroStaysZero();
+        oddNumberOfBits();
         loads();
+        loadOfNoResidue();
         stepsOneByOne();
         manySteps();
+        noSteps();
+        greatestSteps();
+        stepsBelowZero();
         channels();
-        channelsAreRefused();
-        channelClearsTheCircuit();
+        channelOfNoResidue();
+        ninthChannel();
         patterns();
+        patternOfNoChannels();
+        patternOfEightChannels();
         due.end();
     }
 
+    private static void stepWrapsAround() {
+        due.sentence("Terms: a STEP multiplies it by x, modulo p");
+        for (long p : Made.PRIMITIVE) {
+            ShiftSignatures x = new ShiftSignatures();
+            int n = x.polynomial(p);
+            x.load(1L << (n - 1));
+            due.answer("steps(1) of x^" + (n - 1) + " modulo " + p, x.steps(1), p ^ 1L << n);
+            x.load((1L << n) - 1);
+            due.answer("steps(1) of all bits modulo " + p, x.steps(1), (2L << n) - 2 ^ p);
+        }
+    }
+
+    private static void zeroStaysZero() {
+        due.sentence("Terms: THE REGISTER holds a residue (0 is one)");
+        for (long p : new long[] {3, 19, Made.WIDE}) {
+            ShiftSignatures x = Made.of(p, 1);
+            x.load(0);
+            due.answer("steps(1) of 0 modulo " + p, x.steps(1), 0);
+            due.answer("steps(5) of 0 modulo " + p, x.steps(5), 0);
+            due.answer("steps(MAX) of 0 modulo " + p, x.steps(Long.MAX_VALUE), 0);
+            due.answer("pattern() of 0 modulo " + p, x.pattern(), 0);
+        }
+    }
+
+    private static void oddNumberOfBits() {
+        due.sentence("Terms: a channel's bit is 1 if an odd number of bits are set in the register and in its mask");
+        for (int many = 0; many <= 32; many++) {
+            long bits = (1L << many) - 1;
+            ShiftSignatures x = Made.of(Made.WIDE, bits, 0xFFFFFFFFL);
+            x.load(0xFFFFFFFFL);
+            due.answer("pattern() of " + many + " bits in the mask", x.pattern() & 1, many % 2);
+            x.load(bits);
+            due.answer("pattern() of " + many + " bits in the register", x.pattern() >> 1, many % 2);
+        }
+        ShiftSignatures apart = Made.of(19, 10);
+        apart.load(5);
+        due.answer("pattern() of no bits in common", apart.pattern(), 0);
+    }
+
     private static void loads() {
-        ShiftSignatures x = new ShiftSignatures();
-        x.polynomial(19);
-        x.channel(9);
+        due.sentence("Promise 9: The register becomes a residue: what it was");
+        ShiftSignatures x = Made.of(19, 9);
         x.gate(ShiftSignatures.NOT, 0, 0);
         due.answer("load(15)", x.load(15), 1);
         due.answer("load(0)", x.load(0), 15);
         due.answer("load(9)", x.load(9), 0);
+        due.answer("load(9) again", x.load(9), 9);
         due.answer("the lines behind load", x.faults(0, 0), 4);
-        for (long v : new long[] {16, 31, 4294967296L, Long.MAX_VALUE, Long.MIN_VALUE, -1}) {
-            due.refusal("load(" + v + ")", x, IllegalArgumentException.class, () -> x.load(v));
+        due.answer("the pattern behind load", x.pattern(), 0);
+        ShiftSignatures wide = Made.of(Made.WIDE);
+        due.answer("load(2^32 - 1)", wide.load(0xFFFFFFFFL), 1);
+        due.answer("load(2^31)", wide.load(1L << 31), 0xFFFFFFFFL);
+        due.answer("load(0)", wide.load(0), 1L << 31);
+        due.answer("load(0) modulo x + 1", new ShiftSignatures().load(0), 1);
+    }
+
+    private static void loadOfNoResidue() {
+        due.sentence("Promise 9: IllegalArgument: it is none");
+        for (long v : new long[] {8, 9, 31, 4294967296L, Long.MAX_VALUE, Long.MIN_VALUE, -1}) {
+            due.badArgument("load(" + v + ")", Made::small, x -> x.load(v));
         }
-        due.answer("the register behind refused loads", x.load(1), 9);
-        x.polynomial(4299161607L);
-        due.answer("load(2^32 - 1)", x.load(4294967295L), 1);
-        due.answer("load(2^32 - 1) again", x.load(4294967295L), 4294967295L);
-        due.refusal("load(2^32)", x, IllegalArgumentException.class, () -> x.load(4294967296L));
+        due.badArgument("load(2^32)", () -> Made.of(Made.WIDE), x -> x.load(4294967296L));
+        due.badArgument("load(2) modulo x + 1", ShiftSignatures::new, x -> x.load(2));
     }
 
     private static void stepsOneByOne() {
-        ShiftSignatures x = new ShiftSignatures();
-        x.polynomial(19);
+        due.sentence("Promise 10: the register then");
+        ShiftSignatures x = Made.of(19);
         long[] powers = {2, 4, 8, 3, 6, 12, 11, 5, 10, 7, 14, 15, 13, 9, 1, 2};
         for (int k = 0; k < powers.length; k++) {
             due.answer("step " + k, x.steps(1), powers[k]);
         }
-        due.answer("steps(0)", x.steps(0), 2);
-        x.load(0);
-        due.answer("steps(5) of 0", x.steps(5), 0);
+        due.answer("load(0) behind them", x.load(0), 2);
     }
 
     private static void manySteps() {
-        ShiftSignatures x = new ShiftSignatures();
-        due.answer("steps(1) modulo x + 1", x.steps(1), 1);
-        due.answer("steps(MAX) modulo x + 1", x.steps(Long.MAX_VALUE), 1);
-        x.polynomial(19);
+        due.sentence("Promise 10: Many STEPS");
+        ShiftSignatures x = Made.of(19);
         x.load(9);
         due.answer("steps(4)", x.steps(4), 8);
         due.answer("steps(11)", x.steps(11), 9);
         due.answer("steps(15 * 2^40)", x.steps(15L << 40), 9);
+        due.answer("steps(1) of x + 1 modulo x^2 + 1", stepped(5, 3, 1), 3);
+        due.answer("steps(1) modulo x + 1", new ShiftSignatures().steps(1), 1);
+    }
+
+    private static void noSteps() {
+        due.sentence("Promise 10: Many STEPS (none are 0)");
+        due.answer("steps(0) of 1", stepped(19, 1, 0), 1);
+        due.answer("steps(0) of 15", stepped(19, 15, 0), 15);
+        due.answer("steps(0) of 0", stepped(19, 0, 0), 0);
+        due.answer("steps(0) of 2^32 - 1", stepped(Made.WIDE, 0xFFFFFFFFL, 0), 0xFFFFFFFFL);
+        due.answer("steps(0) modulo x + 1", stepped(3, 1, 0), 1);
+    }
+
+    private static void greatestSteps() {
+        due.sentence("Promise 10: Many STEPS, however many");
         // 2^63 - 1 leaves 7 when divided by 15, and 9 is x^14.
-        due.answer("steps(MAX)", x.steps(Long.MAX_VALUE), 12);
-        due.refusal("steps(-1)", x, IllegalArgumentException.class, () -> x.steps(-1));
-        due.refusal("steps(MIN)", x, IllegalArgumentException.class, () -> x.steps(Long.MIN_VALUE));
-        due.answer("the register behind refused steps", x.load(1), 12);
-        x.polynomial(5);
-        x.load(3);
-        due.answer("steps(1) of x + 1 modulo x^2 + 1", x.steps(1), 3);
+        due.answer("steps(MAX) of 9", stepped(19, 9, Long.MAX_VALUE), 12);
+        due.answer("steps(2^62) of 1", stepped(19, 1, 1L << 62), 3);
+        due.answer("steps(MAX) where x^32 is 1", stepped(0x100000001L, 1, Long.MAX_VALUE), 1L << 31);
+        // 2^32 - 1 steps are one round, and 2^63 - 1 leave 2^31 - 1 behind whole rounds.
+        due.answer("steps(2^32 - 1) of degree 32", stepped(Made.WIDE, 77, 4294967295L), 77);
+        due.answer(
+                "steps(MAX) of degree 32",
+                stepped(Made.WIDE, 1, Long.MAX_VALUE),
+                stepped(Made.WIDE, 1, Integer.MAX_VALUE));
+        due.answer("steps(MAX) modulo x + 1", stepped(3, 1, Long.MAX_VALUE), 1);
+    }
+
+    private static void stepsBelowZero() {
+        due.sentence("Promise 10: IllegalArgument: many is below 0");
+        due.badArgument("steps(-1)", Made::small, x -> x.steps(-1));
+        due.badArgument("steps(MIN)", Made::small, x -> x.steps(Long.MIN_VALUE));
+        due.badArgument("steps(-1) of a full object", Made::full, x -> x.steps(-1));
     }
 
     private static void channels() {
-        ShiftSignatures x = new ShiftSignatures();
-        x.polynomial(19);
+        due.sentence("Promise 11: A channel more: its number");
+        ShiftSignatures x = Made.of(19);
         for (int c = 0; c < 8; c++) {
             due.answer("channel(" + (15 - c) + ")", x.channel(15 - c), c);
             due.answer("the faults with it", x.faults(0, 0), 2 * c + 2);
         }
-        due.refusal("channel(1) with 8", x, IllegalStateException.class, () -> x.channel(1));
-        due.refusal("channel(16) with 8", x, IllegalArgumentException.class, () -> x.channel(16));
-        x.polynomial(3);
-        due.answer("channel(0) behind a new polynomial", x.channel(0), 0);
+        ShiftSignatures y = Made.of(19, 6);
+        due.answer("channel(6) a second time", y.channel(6), 1);
+        due.answer("channel(0)", y.channel(0), 2);
+        y.load(2);
+        due.answer("pattern() of the three", y.pattern(), 3);
     }
 
-    private static void channelsAreRefused() {
-        ShiftSignatures x = new ShiftSignatures();
-        x.polynomial(19);
-        x.channel(8);
-        x.gate(ShiftSignatures.NOT, 0, 0);
-        x.output(1);
-        for (long mask : new long[] {16, 24, Long.MAX_VALUE, Long.MIN_VALUE, -1}) {
-            due.refusal("channel(" + mask + ")", x, IllegalArgumentException.class, () -> x.channel(mask));
+    private static void channelOfNoResidue() {
+        due.sentence("Promise 11: IllegalArgument: the mask is no residue");
+        for (long mask : new long[] {8, 24, 4294967296L, Long.MAX_VALUE, Long.MIN_VALUE, -1}) {
+            due.badArgument("channel(" + mask + ")", Made::small, x -> x.channel(mask));
         }
-        x.polynomial(4299161607L);
-        due.answer("channel(2^32 - 1)", x.channel(4294967295L), 0);
-        due.refusal("channel(2^32)", x, IllegalArgumentException.class, () -> x.channel(4294967296L));
+        due.badArgument("channel(2^32)", () -> Made.of(Made.WIDE), x -> x.channel(4294967296L));
+        due.answer("channel(2^32 - 1)", Made.of(Made.WIDE).channel(4294967295L), 0);
     }
 
-    private static void channelClearsTheCircuit() {
-        ShiftSignatures x = new ShiftSignatures();
-        x.polynomial(19);
-        x.load(5);
-        x.channel(1);
-        x.gate(ShiftSignatures.NOT, 0, 0);
-        x.output(0);
-        x.output(1);
-        due.answer("answer(1, NONE)", x.answer(1, -1), 1);
-        due.answer("answer(0, NONE)", x.answer(0, -1), 2);
-        due.answer("channel(4)", x.channel(4), 1);
-        due.answer("the faults behind it", x.faults(0, 0), 4);
-        due.answer("answer(3, NONE) behind it", x.answer(3, -1), 0);
-        due.answer("the register behind it", x.steps(0), 5);
-        due.answer("the first channel stays", x.pattern(), 3);
-        due.answer("the first gate behind it", x.gate(ShiftSignatures.AND, 0, 1), 2);
-        due.answer("the first output behind it", x.output(2), 0);
-        due.answer("answer(3, NONE) with them", x.answer(3, -1), 1);
+    private static void ninthChannel() {
+        due.sentence("Promise 11: IllegalState: there are 8");
+        due.answer("channel 8 of 8", Made.of(19, 1, 2, 3, 4, 5, 6, 7).channel(8), 7);
+        due.badState("channel(1) with 8", Made::eightChannels, x -> x.channel(1));
+        due.badState("channel(0) with 8", Made::eightChannels, x -> x.channel(0));
+        due.badState("channel(255) with 8 and a circuit", Made::full, x -> x.channel(255));
     }
 
     private static void patterns() {
-        ShiftSignatures x = new ShiftSignatures();
-        x.polynomial(19);
-        x.channel(8);
-        x.channel(0);
-        x.channel(11);
-        x.channel(15);
+        due.sentence("Promise 12: The PATTERN of the register as it is");
+        ShiftSignatures x = Made.of(19, 8, 0, 11, 15);
         int[] bits = {0, 12, 12, 0, 8, 4, 4, 8, 13, 1, 1, 13, 5, 9, 9, 5};
         for (int v = 0; v < 16; v++) {
             x.load(v);
             due.answer("pattern() of " + v, x.pattern(), bits[v]);
+            due.answer("pattern() of " + v + " again", x.pattern(), bits[v]);
         }
         due.answer("the register behind pattern()", x.steps(0), 15);
-        x.polynomial(4299161607L);
-        x.load(4294967295L);
-        for (int c = 0; c < 8; c++) {
-            x.channel(4294967295L >> c);
+    }
+
+    private static void patternOfNoChannels() {
+        due.sentence("Promise 12: the sum of 2^c for all channels c (of none it is 0)");
+        due.answer("pattern() of a new object", new ShiftSignatures().pattern(), 0);
+        ShiftSignatures x = Made.of(Made.WIDE);
+        x.load(0xFFFFFFFFL);
+        due.answer("pattern() without channels", x.pattern(), 0);
+    }
+
+    private static void patternOfEightChannels() {
+        due.sentence("Promise 12: the sum of 2^c for all channels c (of eight it is up to 255)");
+        ShiftSignatures x = Made.eightChannels();
+        for (int v = 0; v < 256; v += 5) {
+            x.load(v);
+            due.answer("pattern() of " + v, x.pattern(), v);
         }
-        due.answer("pattern() of 8 channels", x.pattern(), 0xAA);
+        due.answer("load(1) behind 255", x.load(1), 255);
+        ShiftSignatures wide = Made.of(Made.WIDE);
+        wide.load(0xFFFFFFFFL);
+        for (int c = 0; c < 8; c++) {
+            wide.channel(0xFFFFFFFFL >> c);
+        }
+        due.answer("pattern() of 32 bits and fewer", wide.pattern(), 0xAA);
+    }
+
+    private static long stepped(long p, long start, long many) {
+        ShiftSignatures x = Made.of(p);
+        x.load(start);
+        return x.steps(many);
     }
 }
