@@ -7,24 +7,24 @@ public final class ChangesTest {
     private static final Due due = new Due();
 
     public static void main(String[] args) {
-        polynomialToldAnew();
-        samePolynomialToldAnew();
-        roomAgainBehindAPolynomial();
-        channelDropsTheCircuit();
-        roomAgainBehindAChannel();
-        throwingChangesNothing();
-        throwingSpendsNoRoom();
-        askingChangesNothing();
-        argumentWinsOverStateInChannel();
-        argumentWinsInGate();
-        indexWinsOverStateInGate();
-        indexWinsOverStateInOutput();
-        indexWinsOverLength();
-        noSuchLine();
-        lengthsThatMayBe();
-        lengthsThatMayNotBe();
-        fiveHundredAndTwelveCalls();
-        due.end();
+        due.run(
+                ChangesTest::polynomialToldAnew,
+                ChangesTest::samePolynomialToldAnew,
+                ChangesTest::roomAgainBehindAPolynomial,
+                ChangesTest::channelDropsTheCircuit,
+                ChangesTest::roomAgainBehindAChannel,
+                ChangesTest::throwingChangesNothing,
+                ChangesTest::throwingSpendsNoRoom,
+                ChangesTest::askingChangesNothing,
+                ChangesTest::argumentWinsOverStateInChannel,
+                ChangesTest::argumentWinsInGate,
+                ChangesTest::indexWinsOverStateInGate,
+                ChangesTest::indexWinsOverStateInOutput,
+                ChangesTest::indexWinsOverLength,
+                ChangesTest::noSuchLine,
+                ChangesTest::lengthsThatMayBe,
+                ChangesTest::lengthsThatMayNotBe,
+                ChangesTest::fiveHundredAndTwelveCalls);
     }
 
     private static void polynomialToldAnew() {

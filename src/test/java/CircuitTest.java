@@ -6,27 +6,27 @@ public final class CircuitTest {
     private static final Due due = new Due();
 
     public static void main(String[] args) {
-        linesAreNumberedFromZero();
-        tablesOfAllKinds();
-        gatesOfTheSameLineTwice();
-        gatesOfLinesBeforeThem();
-        noSuchKind();
-        noSuchFirstLine();
-        noSuchSecondLine();
-        notHasNoSecondLine();
-        twentyFiveGates();
-        outputsAreNumberedAsTold();
-        outputOfNoLine();
-        outputMoreThanOnce();
-        seventeenOutputs();
-        answerOfNoOutputs();
-        answersOfSixteenOutputs();
-        stuckLines();
-        stuckWhateverTheyAreTold();
-        bitsBehindTheLastChannel();
-        firstAndLastFault();
-        noSuchFault();
-        due.end();
+        due.run(
+                CircuitTest::linesAreNumberedFromZero,
+                CircuitTest::tablesOfAllKinds,
+                CircuitTest::gatesOfTheSameLineTwice,
+                CircuitTest::gatesOfLinesBeforeThem,
+                CircuitTest::noSuchKind,
+                CircuitTest::noSuchFirstLine,
+                CircuitTest::noSuchSecondLine,
+                CircuitTest::notHasNoSecondLine,
+                CircuitTest::twentyFiveGates,
+                CircuitTest::outputsAreNumberedAsTold,
+                CircuitTest::outputOfNoLine,
+                CircuitTest::outputMoreThanOnce,
+                CircuitTest::seventeenOutputs,
+                CircuitTest::answerOfNoOutputs,
+                CircuitTest::answersOfSixteenOutputs,
+                CircuitTest::stuckLines,
+                CircuitTest::stuckWhateverTheyAreTold,
+                CircuitTest::bitsBehindTheLastChannel,
+                CircuitTest::firstAndLastFault,
+                CircuitTest::noSuchFault);
     }
 
     private static void linesAreNumberedFromZero() {

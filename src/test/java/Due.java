@@ -1,3 +1,4 @@
+import java.util.List;
 import java.util.function.Consumer;
 import java.util.function.Supplier;
 
@@ -7,6 +8,18 @@ final class Due {
 
     private String sentence = "";
     private int wrong;
+
+    /** Runs each test, whatever one before it threw, and ends the program with 1 if an answer was wrong. */
+    void run(Runnable... tests) {
+        for (Runnable test : tests) {
+            try {
+                test.run();
+            } catch (RuntimeException thrown) {
+                tell("a call threw " + thrown + " at " + List.of(thrown.getStackTrace()));
+            }
+        }
+        end();
+    }
 
     /** The words of the document that the answers from here on are held to. */
     void sentence(String words) {

@@ -3,12 +3,12 @@ public final class NewObjectTest {
     private static final Due due = new Due();
 
     public static void main(String[] args) {
-        polynomialAtFirst();
-        registerAtFirst();
-        noChannels();
-        noCircuit();
-        objectsShareNothing();
-        due.end();
+        due.run(
+                NewObjectTest::polynomialAtFirst,
+                NewObjectTest::registerAtFirst,
+                NewObjectTest::noChannels,
+                NewObjectTest::noCircuit,
+                NewObjectTest::objectsShareNothing);
     }
 
     private static void polynomialAtFirst() {

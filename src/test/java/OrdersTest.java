@@ -3,19 +3,19 @@ public final class OrdersTest {
     private static final Due due = new Due();
 
     public static void main(String[] args) {
-        irreducibleOfLowestDegrees();
-        productsOfTwo();
-        allOfLowDegrees();
-        countsOfDegreeSixteen();
-        squaresOfIrreducibleOnes();
-        productsOfOneDegree();
-        knownPrimitive();
-        allOrdersOfIrreducibleOnes();
-        orderIsTheLeastAboveZero();
-        ordersUpToEighteen();
-        noOrderAboveEighteen();
-        stateStays();
-        due.end();
+        due.run(
+                OrdersTest::irreducibleOfLowestDegrees,
+                OrdersTest::productsOfTwo,
+                OrdersTest::allOfLowDegrees,
+                OrdersTest::countsOfDegreeSixteen,
+                OrdersTest::squaresOfIrreducibleOnes,
+                OrdersTest::productsOfOneDegree,
+                OrdersTest::knownPrimitive,
+                OrdersTest::allOrdersOfIrreducibleOnes,
+                OrdersTest::orderIsTheLeastAboveZero,
+                OrdersTest::ordersUpToEighteen,
+                OrdersTest::noOrderAboveEighteen,
+                OrdersTest::stateStays);
     }
 
     private static void irreducibleOfLowestDegrees() {

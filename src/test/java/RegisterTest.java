@@ -3,23 +3,24 @@ public final class RegisterTest {
     private static final Due due = new Due();
 
     public static void main(String[] args) {
-        stepWrapsAround();
-        zeroStaysZero();
-        oddNumberOfBits();
-        loads();
-        loadOfNoResidue();
-        stepsOneByOne();
-        manySteps();
-        noSteps();
-        greatestSteps();
-        stepsBelowZero();
-        channels();
-        channelOfNoResidue();
-        ninthChannel();
-        patterns();
-        patternOfNoChannels();
-        patternOfEightChannels();
-        due.end();
+        due.run(
+                RegisterTest::stepWrapsAround,
+                RegisterTest::zeroStaysZero,
+                RegisterTest::atMostEightChannels,
+                RegisterTest::oddNumberOfBits,
+                RegisterTest::loads,
+                RegisterTest::loadOfNoResidue,
+                RegisterTest::stepsOneByOne,
+                RegisterTest::manySteps,
+                RegisterTest::noSteps,
+                RegisterTest::greatestSteps,
+                RegisterTest::stepsBelowZero,
+                RegisterTest::channels,
+                RegisterTest::channelOfNoResidue,
+                RegisterTest::ninthChannel,
+                RegisterTest::patterns,
+                RegisterTest::patternOfNoChannels,
+                RegisterTest::patternOfEightChannels);
     }
 
     private static void stepWrapsAround() {
@@ -43,6 +44,21 @@ public final class RegisterTest {
             due.answer("steps(5) of 0 modulo " + p, x.steps(5), 0);
             due.answer("steps(MAX) of 0 modulo " + p, x.steps(Long.MAX_VALUE), 0);
             due.answer("pattern() of 0 modulo " + p, x.pattern(), 0);
+        }
+    }
+
+    private static void atMostEightChannels() {
+        due.sentence("Terms: CHANNELS, at most 8, have masks that are residues");
+        for (long p : Made.PRIMITIVE) {
+            ShiftSignatures x = new ShiftSignatures();
+            long last = (1L << x.polynomial(p)) - 1;
+            for (int c = 0; c < 8; c++) {
+                due.answer("channel(" + last + ") modulo " + p, x.channel(last), c);
+            }
+            due.answer("pattern() of 1 modulo " + p, x.pattern(), 255);
+            Class<?> got = Due.thrownBy(x, y -> y.channel(last));
+            due.answer("channel 9 is refused modulo " + p, got == IllegalStateException.class, true);
+            due.answer("pattern() behind it modulo " + p, x.pattern(), 255);
         }
     }
 

@@ -3,23 +3,24 @@ public final class ResiduesTest {
     private static final Due due = new Due();
 
     public static void main(String[] args) {
-        bitsOfLongs();
-        addedWithoutCarry();
-        residuesEndBelowTwoToTheN();
-        polynomialIsTold();
-        degreeTooLow();
-        degreeTooHigh();
-        bitZeroNotSet();
-        products();
-        productOfNoResidue();
-        powers();
-        powerZero();
-        greatestPowers();
-        powerOfNoResidue();
-        powerBelowZero();
-        residues();
-        allSixtyFourBits();
-        due.end();
+        due.run(
+                ResiduesTest::bitsOfLongs,
+                ResiduesTest::addedWithoutCarry,
+                ResiduesTest::lowestAndHighestDegree,
+                ResiduesTest::residuesEndBelowTwoToTheN,
+                ResiduesTest::polynomialIsTold,
+                ResiduesTest::degreeTooLow,
+                ResiduesTest::degreeTooHigh,
+                ResiduesTest::bitZeroNotSet,
+                ResiduesTest::products,
+                ResiduesTest::productOfNoResidue,
+                ResiduesTest::powers,
+                ResiduesTest::powerZero,
+                ResiduesTest::greatestPowers,
+                ResiduesTest::powerOfNoResidue,
+                ResiduesTest::powerBelowZero,
+                ResiduesTest::residues,
+                ResiduesTest::allSixtyFourBits);
     }
 
     private static void bitsOfLongs() {
@@ -40,6 +41,18 @@ public final class ResiduesTest {
         due.answer("times(65535, 65535)", x.times(65535, 65535), 0x55555555L);
         due.answer("power(3, 16)", x.power(3, 16), 65537);
         due.answer("residue(-1) modulo x + 1", new ShiftSignatures().residue(-1), 0);
+    }
+
+    /** The last that may be at each end, and next to each of them one that may not. */
+    private static void lowestAndHighestDegree() {
+        due.sentence("Terms: THE POLYNOMIAL p has degree n, 1 .. 32, and bit 0 set");
+        due.badArgument("polynomial(1), of degree 0", ShiftSignatures::new, x -> x.polynomial(1));
+        due.badArgument("polynomial(2), without bit 0", ShiftSignatures::new, x -> x.polynomial(2));
+        due.answer("polynomial(3), of degree 1", new ShiftSignatures().polynomial(3), 1);
+        due.answer("polynomial(2^32 + 1), of degree 32", new ShiftSignatures().polynomial(0x100000001L), 32);
+        due.badArgument("polynomial(2^33 - 2), without bit 0", ShiftSignatures::new, x -> x.polynomial(0x1FFFFFFFEL));
+        due.answer("polynomial(2^33 - 1), of degree 32", new ShiftSignatures().polynomial(0x1FFFFFFFFL), 32);
+        due.badArgument("polynomial(2^33 + 1), of degree 33", ShiftSignatures::new, x -> x.polynomial(0x200000001L));
     }
 
     /** Of each degree, and at each place where a residue is asked for. */

@@ -5,30 +5,31 @@ public final class SessionTest {
     private static final Due due = new Due();
 
     public static void main(String[] args) {
-        sessionOfNoPatterns();
-        signatureByHand();
-        wideAnswersAreReduced();
-        registerStays();
-        registerOfZero();
-        lastOfAllPatterns();
-        sessionOfNoSuchFault();
-        sessionOfNoSuchLength();
-        allFaultsAreCounted();
-        faultsByHand();
-        faultsOfNoPatterns();
-        seenButNotFound();
-        noneSeenButNotFound();
-        firstMissedByNumber();
-        hiddenAfterOneRound();
-        sixtyFourFaults();
-        whatIsNoQuestion();
-        faultsOfNoSuchLength();
-        firsts();
-        firstOfFaultsNotSeen();
-        firstOfNoSuchFault();
-        firstOfNoFault();
-        firstOfNoSuchLength();
-        due.end();
+        due.run(
+                SessionTest::sessionOfNoPatterns,
+                SessionTest::signatureByHand,
+                SessionTest::wideAnswersAreReduced,
+                SessionTest::registerStays,
+                SessionTest::registerOfZero,
+                SessionTest::lastOfAllPatterns,
+                SessionTest::sessionsWithEachFaultOrNone,
+                SessionTest::sessionOfNoSuchFault,
+                SessionTest::sessionOfNoSuchLength,
+                SessionTest::allFaultsAreCounted,
+                SessionTest::faultsByHand,
+                SessionTest::faultsOfNoPatterns,
+                SessionTest::seenButNotFound,
+                SessionTest::noneSeenButNotFound,
+                SessionTest::firstMissedByNumber,
+                SessionTest::hiddenAfterOneRound,
+                SessionTest::sixtyFourFaults,
+                SessionTest::whatIsNoQuestion,
+                SessionTest::faultsOfNoSuchLength,
+                SessionTest::firsts,
+                SessionTest::firstOfFaultsNotSeen,
+                SessionTest::firstOfNoSuchFault,
+                SessionTest::firstOfNoFault,
+                SessionTest::firstOfNoSuchLength);
     }
 
     private static void sessionOfNoPatterns() {
@@ -155,6 +156,28 @@ public final class SessionTest {
         }
         x.output(all);
         return all;
+    }
+
+    private static void sessionsWithEachFaultOrNone() {
+        due.sentence("Promise 16: The result of a SESSION of m patterns with a fault, or none");
+        // The answers of an AND to the patterns 1, 2, 0, 3, 2, 3, 1, 1 with none, and with lines 0 to 2 stuck.
+        int[][] answers = {
+            {0, 0, 0, 1, 0, 1, 0, 0},
+            {0, 0, 0, 0, 0, 0, 0, 0}, {0, 1, 0, 1, 1, 1, 0, 0},
+            {0, 0, 0, 0, 0, 0, 0, 0}, {1, 0, 0, 1, 0, 1, 1, 1},
+            {0, 0, 0, 0, 0, 0, 0, 0}, {1, 1, 1, 1, 1, 1, 1, 1}
+        };
+        ShiftSignatures x = Made.small();
+        for (int fault = ShiftSignatures.NONE; fault < 6; fault++) {
+            long signature = 0;
+            for (int m = 0; m <= 8; m++) {
+                due.answer("session(" + m + ", " + fault + ")", x.session(m, fault), signature);
+                if (m < 8) {
+                    long times = signature << 1;
+                    signature = (times > 7 ? times ^ 11 : times) ^ answers[fault + 1][m];
+                }
+            }
+        }
     }
 
     private static void sessionOfNoSuchFault() {
