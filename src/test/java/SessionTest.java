@@ -23,6 +23,7 @@ public final class SessionTest {
                 SessionTest::firstMissedByNumber,
                 SessionTest::hiddenAfterOneRound,
                 SessionTest::sixtyFourFaults,
+                SessionTest::sixtyFourFaultsAtOnce,
                 SessionTest::whatIsNoQuestion,
                 SessionTest::faultsOfNoSuchLength,
                 SessionTest::firsts,
@@ -315,18 +316,45 @@ public final class SessionTest {
         due.sentence("Promise 17: Of THE FAULTS (64 at most)");
         ShiftSignatures x = Made.eightChannels();
         x.load(1);
-        for (int g = 0; g < 24; g++) {
-            x.gate(ShiftSignatures.NOT, g, 0);
-        }
-        for (int i = 0; i < 8; i++) {
-            x.output(24 + i);
-        }
+        tellThreeNots(x);
         due.answer("faults(256, 0)", x.faults(256, 0), 64);
         due.answer("faults(255, 1)", x.faults(255, 1), 64);
         due.answer("faults(1, 1)", x.faults(1, 1), 32);
         due.answer("faults(1, 2)", x.faults(1, 2), 32);
         due.answer("first(256, 63)", x.first(256, 63), 7);
         due.answer("first(256, 62)", x.first(256, 62), 0);
+    }
+
+    /**
+     * Before the 16th signature is taken modulo p, the coefficient of x^8 is another one with each of the
+     * 64 faults; behind that, some faults' signatures are the right one.
+     */
+    private static void sixtyFourFaultsAtOnce() {
+        due.sentence("Terms: FOUND if the signature is another one (of all 64 faults at once)");
+        ShiftSignatures x = Made.of(465, 73, 81, 161, 143, 78, 71, 206, 95);
+        x.load(241);
+        tellThreeNots(x);
+        int found = 0;
+        int missed = ShiftSignatures.NONE;
+        for (int fault = 63; fault >= 0; fault--) {
+            boolean other = x.session(16, fault) != x.session(16, -1);
+            found += other ? 1 : 0;
+            missed = other ? missed : fault;
+        }
+        due.answer("other signatures of 16 patterns", found, 60);
+        due.answer("faults(16, 1)", x.faults(16, 1), 64);
+        due.answer("faults(16, 2)", x.faults(16, 2), found);
+        due.answer("faults(16, 3)", x.faults(16, 3), missed);
+    }
+
+    /** Each of eight channels goes through three NOTs to an output of its own. */
+    private static void tellThreeNots(ShiftSignatures x) {
+        for (int g = 0; g < 24; g++) {
+            x.gate(ShiftSignatures.NOT, g, 0);
+        }
+        for (int i = 0; i < 8; i++) {
+            x.output(24 + i);
+        }
     }
 
     private static void whatIsNoQuestion() {
